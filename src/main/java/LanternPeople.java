@@ -60,7 +60,10 @@ public final class LanternPeople {
     }
 
     public int read() {
-        reader.readTape();
+        reader.start();
+        for (int tells = 0; tells <= Tokens.MOST && reader.goesOn(); tells++) {
+            reader.readTell();
+        }
         tape.length = 0;
         faultPlace = reader.faultPlace();
         int fault = reader.faultNumber();
@@ -621,7 +624,7 @@ public final class LanternPeople {
 
         private boolean isWord(int word, int from, int letters) {
             for (int i = 0; i < LETTERS; i++) {
-                int here = i < letters ? byteAt(from + i) : ' ';
+                int here = i < letters && from + i < Tape.MOST ? tape.bytes[from + i] : ' ';
                 if (WORD_LIST.charAt(word * LETTERS + i) != here) {
                     return false;
                 }
@@ -791,7 +794,7 @@ public final class LanternPeople {
             tokens = new Tokens(tape);
         }
 
-        void readTape() {
+        void start() {
             draft.clear();
             tokens.scan();
             at = 0;
@@ -799,9 +802,10 @@ public final class LanternPeople {
             place = NONE;
             lateFault = 0;
             latePlace = NONE;
-            for (int tells = 0; tells <= Tokens.MOST && fault == 0 && kind() != Tokens.END; tells++) {
-                readTell();
-            }
+        }
+
+        boolean goesOn() {
+            return fault == 0 && kind() != Tokens.END;
         }
 
         int faultNumber() {
@@ -812,7 +816,7 @@ public final class LanternPeople {
             return fault != 0 ? place : latePlace;
         }
 
-        private void readTell() {
+        void readTell() {
             int word = kind();
             switch (word) {
                 case Tokens.SLIDE:
@@ -1209,6 +1213,7 @@ public final class LanternPeople {
         /** What a law tells of a person and a slide; the slide is below 0 where a plain one has none. */
         private int lawOf(int law, int person, int slide) {
             int[] code = story.code;
+            int here = slide >= 0 ? glow[cell(person, slide)] : 0;
             int at = story.start[law];
             int top = 0;
             for (int steps = 0; steps < Story.MOST_CODE && at >= 0 && at < story.size; steps++) {
@@ -1218,7 +1223,7 @@ public final class LanternPeople {
                     if (top >= MOST_STACK) {
                         return 0;
                     }
-                    stack[top] = part >= 0 ? part : varOf(Story.VAR - part, person, slide);
+                    stack[top] = part >= 0 ? part : varOf(Story.VAR - part, person, slide, here);
                     top++;
                 } else if (part == Story.VALUE) {
                     return top > 0 ? stack[top - 1] : 0;
@@ -1251,17 +1256,15 @@ public final class LanternPeople {
             }
         }
 
-        private int varOf(int number, int person, int slide) {
-            boolean shows = slide >= 0;
-            int here = shows ? glow[cell(person, slide)] : 0;
+        private int varOf(int number, int person, int slide, int here) {
             switch (number) {
                 case 0: return here;
                 case 1: return story.warm[person];
-                case 2: return shows ? story.bright[slide] : 0;
+                case 2: return slide >= 0 ? story.bright[slide] : 0;
                 case 3: return week;
                 case 4: return seatOf[person];
                 case 5: return joins[person];
-                case 6: return shows ? slide : 0;
+                case 6: return Math.max(slide, 0);
                 case 7: return total[person] - here;
                 default: return story.slides;
             }
@@ -1287,10 +1290,11 @@ public final class LanternPeople {
 
         void move(int person, int seat) {
             int from = seatOf[person];
-            int step = from < seat ? 1 : -1;
-            for (int i = 0; i < MOST_PEOPLE && from != seat; i++) {
-                row[from] = row[from + step];
-                from += step;
+            for (int i = from; i < seat; i++) {
+                row[i] = row[i + 1];
+            }
+            for (int i = from; i > seat; i--) {
+                row[i] = row[i - 1];
             }
             row[seat] = person;
             settle();

@@ -126,6 +126,16 @@ final class RandomTexts {
         return s.toString();
     }
 
+    /** A whole one with a name or a number that is not as it should be. */
+    String almost() {
+        String text = good();
+        String from = pick(new String[] {"sb", "sc", "pb", "pa", " 0", " 1", " 2", " 5"});
+        String to = pick(new String[] {"sa", "pa", "pc", "zz", " 6", " 21", " 10", " 0", " 9"});
+        int at = text.indexOf(from, random.nextInt(text.length() + 1));
+        boolean sameSort = from.startsWith(" ") == to.startsWith(" ");
+        return at >= 0 && sameSort ? text.substring(0, at) + to + text.substring(at + from.length()) : text;
+    }
+
     /** A text at the limits of room. */
     String full() {
         StringBuilder s = new StringBuilder();
@@ -154,8 +164,9 @@ final class RandomTexts {
     }
 
     String any() {
-        int sort = random.nextInt(20);
-        String text = sort < 11 ? good() : sort < 15 ? wild() : sort < 18 ? hurt(good()) : sort < 19 ? hurt(wild()) : full();
+        int sort = random.nextInt(24);
+        String text = sort < 11 ? good() : sort < 15 ? wild() : sort < 18 ? hurt(good()) : sort < 19 ? hurt(wild())
+            : sort < 23 ? almost() : full();
         return text.length() > 2000 ? text.substring(0, 2000) : text;
     }
 }
