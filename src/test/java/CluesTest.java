@@ -165,5 +165,12 @@ public final class CluesTest {
         Check.due("two, either way", pair.count(14), 2);
         Check.due("in the row", pair.count(3), 1);
         Check.due("pictures", pair.count(12), 3);
+        LanternPeople between = Check.village(RING);
+        between.go(0, 1);
+        between.go(2, 0);
+        // cyd bob ann dot, then cyd ann bob dot.
+        Check.due("none joins twice", between.count(16), 0);
+        between.go(0, 1);
+        Check.due("ann joins twice", between.count(16), 1);
     }
 }

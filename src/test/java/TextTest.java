@@ -259,6 +259,12 @@ public final class TextTest {
         Check.due("the last", takes("if 3<2 then 1 else if 2<2 then 2 else if 1<1 then 3 else if 9<1 then 4 else 5"), 5);
         Check.due("deep", takes("1+2*(3+4*(5-1*(6-2)))"), 15);
         Check.due("deepest", takes("((((((1+2)*2)+1)*2)+1)*2)"), 30);
+        String deepest = "1+1*(1+1*(1+1*(1+1*(1+1*(1+1*(1+1*2))))))";
+        Check.due("most signs wait", takes(deepest), 9);
+        Check.due("most numbers wait", takes("if 8<" + deepest + " then 4+" + deepest + " else 3"), 13);
+        // 6 + 4 tokens, then as many as there is room for: each of them counts.
+        LanternPeople full = Check.village("slide a 0 0 1;person p 0;takes=50" + Check.times("+0", 192) + "+7;");
+        Check.due("the longest law", full.tells(0, 0, 0), 57);
         Check.due("signs wait", takes("90-2*3*4-8/2/2+1*(5-2)"), 67);
         Check.due("the last law", takes("5;takes=6"), 6);
     }

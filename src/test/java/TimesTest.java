@@ -51,6 +51,8 @@ public final class TimesTest {
         Check.due("plain now", x.plainIn(3), 0);
         Check.due("nobody", x.plainIn(4), -1);
         Check.due("nobody", x.plainIn(-1), -1);
+        x.weeks(1);
+        Check.due("ann later, washed", x.plainIn(0), 4);
         Check.due("99", brightFor(0).plainIn(0), 99);
         Check.due("100", brightFor(1).plainIn(0), 100);
         Check.due("101 are too many", brightFor(2).plainIn(0), -2);
@@ -67,6 +69,9 @@ public final class TimesTest {
         Check.due("plain now", x.turns(1), -2);
         Check.due("nobody", x.turns(2), -1);
         Check.due("nobody", x.turns(-1), -1);
+        LanternPeople later = Check.village(RING);
+        later.weeks(2);
+        Check.due("later", later.turns(0), 8);
         Check.due("to none", Check.village(RING).turns(1), 6);
         Check.due("100", brightFor(1).turns(0), 100);
         Check.due("101 are too many", brightFor(2).turns(0), -2);
@@ -93,6 +98,8 @@ public final class TimesTest {
         Check.due("bob and dot", x.lonely(), 2 | 8);
         Check.due("how many", x.count(17), 2);
         Check.due("one", Check.village("slide a 0 0 1;person p 0;shown p a;").lonely(), 1);
+        LanternPeople two = Check.village("slide a 0 1 9;slide b 1 2 9;person p 0;person q 0;person r 0;shown p a;shown q b;");
+        Check.due("r", two.lonely(), 4);
         Check.due("nobody", new LanternPeople().lonely(), 0);
     }
 
@@ -111,7 +118,11 @@ public final class TimesTest {
         x.show(2, 2);
         Check.due("who", x.brightest(0), 2);
         Check.due("how much", x.brightest(1), 12);
-        LanternPeople plain = Check.village("slide a 0 0 1;person p 0;");
+        LanternPeople plain = Check.village("slide a 0 0 1;person p 0;person q 0;shown q a;");
+        Check.due("just so", plain.brightest(0), 1);
+        Check.due("just so", plain.brightest(1), 1);
+        Check.due("just so", plain.share(1), 1000);
+        plain.wash(1);
         Check.due("all plain", plain.brightest(0), -2);
         Check.due("all plain", plain.brightest(1), -2);
         Check.due("others", plain.brightest(2), -1);
