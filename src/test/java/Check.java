@@ -1,16 +1,39 @@
+import java.io.IOException;
 import java.nio.charset.StandardCharsets;
+import java.nio.file.Files;
+import java.nio.file.Path;
 
 /** Helps of the tests: answers that are due, and texts fed to an object. */
 final class Check {
     private static int wrong = 0;
+    private static String document = "";
+    private static String sentence = "";
 
     private Check() { }
+
+    /** What follows tests these words, which must stand in the document just so. */
+    static void of(String words) {
+        if (document.isEmpty()) {
+            try {
+                document = Files.readString(Path.of("../shared/DOC.md")).replaceAll("\\s+", " ");
+            } catch (IOException e) {
+                document = " ";
+            }
+        }
+        sentence = words;
+        due("is in the document", document.contains(words), true);
+    }
 
     static void due(String call, long got, long want) {
         if (got != want) {
             wrong++;
-            System.out.println(call + " answered " + got + ", due is " + want);
+            String of = sentence.isEmpty() ? "" : "[" + sentence + "] ";
+            System.out.println(of + shortened(call) + " answered " + got + ", due is " + want);
         }
+    }
+
+    private static String shortened(String call) {
+        return call.length() <= 200 ? call : call.substring(0, 100) + " .. " + call.substring(call.length() - 100);
     }
 
     static void due(String call, boolean got, boolean want) {
