@@ -269,7 +269,11 @@ public final class ClueEdgesTest {
     }
 
     private static void counts() {
-        Check.of("16 PEOPLE whose JOINS are 2 (bits), 17 how many are LONELY. NONE for others.");
+        Check.of("0 SLIDES, 1 PEOPLE, 2 the week, 3 how many in the ROW JOIN, 4 PLAIN PEOPLE (bits), 5 PAYS of all now, added, "
+            + "6 what was paid so far, 7 all GLOWS, added, 8 bytes on the tape, 9 things that can be undone, 10 TOLD ones, "
+            + "11 SLOTS that hold something, 12 SLIDES that are PICTURES (bits), 13 who would WASH this week (bits), "
+            + "14 how many two JOIN, one on the left of the other, wherever they stand, 15 WARM of all, added, "
+            + "16 PEOPLE whose JOINS are 2 (bits), 17 how many are LONELY. NONE for others.");
         LanternPeople x = Check.village("slide a 0 0 20;slide b 1 1 1;slide c 2 2 1;slide d 3 3 1;slide e 4 4 1;"
             + "person p 9;person q 9;person r 9;person s 9;person t 9;person u 9;takes=99;pays=99;washes=100;"
             + "shown p a;shown q a;shown r a;shown s a;shown t a;shown u a;");

@@ -1,9 +1,17 @@
+import java.nio.ByteBuffer;
+import java.nio.IntBuffer;
+import java.util.Arrays;
+
 /** Edges of promises 1 to 5 and of the Terms, sentence by sentence. */
 public final class TextEdgesTest {
     private static final String[] WORDS = {"slide", "person", "shown", "takes", "fades", "pays", "washes", "seed", "if", "then",
         "else", "glow", "warm", "bright", "week", "seat", "joins", "which", "others", "slides"};
     private static final String FIVE = "slide a 0 1 2;slide b 1 2 3;slide c 2 3 4;slide d 3 4 5;slide e 4 5 6;";
     private static final String SIX = "person p 0;person q 1;person r 2;person s 3;person t 4;person u 5;";
+
+    /** One token of each sort, and what is none. */
+    private static final String[] TOKENS = {"slide", "person", "shown", "takes", "fades", "pays", "washes", "seed", "if", "then",
+        "else", "glow", "others", "slides", "name", "7", ";", "=", "+", "-", "*", "/", "<", "(", ")", ".", "ninechars", "12345"};
 
     private TextEdgesTest() { }
 
@@ -22,8 +30,11 @@ public final class TextEdgesTest {
         signs();
         longer();
         numbered();
+        mostOfEach();
+        thrownAtFirst();
         lawsNotTold();
         seeds();
+        goesOnByTheGrammar();
         endOfText();
         leastOfOnePlace();
         tokensLimit();
@@ -207,6 +218,13 @@ public final class TextEdgesTest {
         Check.fault("person abcdefgh 1;person abcdefgi 1;person abcdefg 1;person abcdef 1;", 0, -1);
         Check.fault("person a 1;person aa 1;person aaa 1;person aaaaaaaa 1;", 0, -1);
         Check.fault("person zzzzzzzz 1;person zzzzzzzz 1;", 3, 25);
+        String[] near = {"a", "b", "z", "aa", "ab", "ba", "bb", "az", "za", "zz", "aaa", "baa", "aab", "bbb", "zaz", "yzyzyzyz", "zyzyzyzy"};
+        for (String first : near) {
+            for (String other : near) {
+                boolean same = first.equals(other);
+                Check.fault("person " + first + " 1;person " + other + " 1;", same ? 3 : 0, same ? 17 + first.length() : -1);
+            }
+        }
         for (String odd : new String[] {"A", "Z", "`", "{", "_", "@", "[", "\u00e9", "\u007f", "\u0080", "\u00e1", "\u00fa"}) {
             Check.fault("person " + odd + " 1;", 1, 7);
             Check.fault("person a" + odd + " 1;", 1, 8);
@@ -225,6 +243,10 @@ public final class TextEdgesTest {
             }
             Check.fault("person " + word.substring(1) + " 1;", 0, -1);
             Check.fault("person x" + word + " 1;", 0, -1);
+            for (int at = 0; at < word.length(); at++) {
+                // One letter of it otherwise, and it is a NAME.
+                Check.fault("person " + word.substring(0, at) + "q" + word.substring(at + 1) + " 1;", 0, -1);
+            }
         }
         Check.fault("slideslid a 0 0 1;", 1, 0);
         Check.fault("slidesli a 0 0 1;", 1, 0);
@@ -285,6 +307,43 @@ public final class TextEdgesTest {
         Check.due("all", x.count(7), 1);
     }
 
+    private static void mostOfEach() {
+        Check.of("SLIDES, 5 at most (a NAME, its LEFT, its RIGHT edge 0 .. 5 each, how BRIGHT 1 .. 20), PEOPLE, 6 at most (a NAME, WARM 0 .. 9)");
+        LanternPeople x = Check.village("slide a 0 5 1;slide b 5 0 20;slide c 0 0 1;slide d 5 5 20;slide e 1 4 10;"
+            + "person p 0;person q 9;person r 1;person s 8;person t 0;person u 9;");
+        int[][] slides = {{0, 5, 1}, {5, 0, 20}, {0, 0, 1}, {5, 5, 20}, {1, 4, 10}};
+        int[] warm = {0, 9, 1, 8, 0, 9};
+        Check.due("slides", x.count(0), 5);
+        Check.due("people", x.count(1), 6);
+        for (int s = 0; s < 5; s++) {
+            for (int what = 0; what < 3; what++) {
+                Check.due("slide(" + s + ", " + what + ")", x.slide(s, what), slides[s][what]);
+            }
+        }
+        for (int p = 0; p < 6; p++) {
+            Check.due("warm of " + p, x.person(p, 0), warm[p]);
+        }
+        Check.due("all warm", x.count(15), 27);
+    }
+
+    private static void thrownAtFirst() {
+        Check.of("SHOWN, 20 at most: a PERSON, a SLIDE: it is thrown upon them at first, one behind the other, as they are told (week 0).");
+        String two = "slide a 0 0 5;slide b 0 0 7;person p 0;person q 0;takes=bright+others;";
+        LanternPeople x = Check.village(two + "shown p a;shown p b;");
+        Check.due("a first", x.glow(0, 0), 5);
+        Check.due("then b", x.glow(0, 1), 12);
+        LanternPeople y = Check.village(two + "shown p b;shown p a;");
+        Check.due("then a", y.glow(0, 0), 12);
+        Check.due("b first", y.glow(0, 1), 7);
+        // What joins by then counts, too: q's is thrown when p's is there, and once more when q's is.
+        LanternPeople z = Check.village("slide a 0 0 5;person p 0;person q 0;takes=1+10*joins;shown p a;shown q a;shown q a;shown p a;");
+        Check.due("1, then 11 more", z.glow(0, 0), 12);
+        Check.due("1, then 11 more", z.glow(1, 0), 12);
+        Check.due("week 0", z.count(2), 0);
+        Check.due("no thing done", z.count(9), 0);
+        Check.due("nothing paid", z.count(6), 0);
+    }
+
     private static void lawsNotTold() {
         Check.of("TAKES (bright), FADES (1), PAYS (glow), WASHES (0), if not told; the last one.");
         LanternPeople x = Check.village("slide a 0 0 20;slide b 0 0 1;person p 9;shown p a;");
@@ -320,6 +379,39 @@ public final class TextEdgesTest {
             bits |= PlainModel.lot(100, seed, 8 * week + p) < washes ? 1 << p : 0;
         }
         return bits;
+    }
+
+    /** Each token of some texts put otherwise, put in ahead, or left out: as the plain model reads it. */
+    private static void goesOnByTheGrammar() {
+        Check.of("1 SYNTAX: a TOKEN, or what is none, with which no text goes on.");
+        String[] texts = {"slide a 0 1 2 ; person p 3 ; shown p a ; seed 4 ;", "takes = if 1 < glow then ( 2 ) else 3 ; fades = 4 ;",
+            "pays = ( ( 1 + week ) * 2 - seat ) / 3 ;", "washes = if ( 1 ) < 2 then 3 else if 4 < 5 then 6 else ( 7 * which ) ;"};
+        for (String text : texts) {
+            String[] tokens = text.split(" ");
+            for (int at = 0; at <= tokens.length; at++) {
+                String ahead = String.join(" ", Arrays.copyOfRange(tokens, 0, at));
+                String there = String.join(" ", Arrays.copyOfRange(tokens, at, tokens.length));
+                String behind = String.join(" ", Arrays.copyOfRange(tokens, Math.min(at + 1, tokens.length), tokens.length));
+                asModel(ahead + " " + behind);
+                asModel(ahead);
+                for (String token : TOKENS) {
+                    asModel(ahead + " " + token + " " + behind);
+                    asModel(ahead + " " + token + " " + there);
+                }
+            }
+        }
+    }
+
+    private static void asModel(String text) {
+        PlainModel model = new PlainModel();
+        byte[] bytes = Check.bytes(text + Check.times(" ", (20 - text.length() % 20) % 20));
+        IntBuffer ints = ByteBuffer.wrap(bytes).asIntBuffer();
+        while (ints.hasRemaining()) {
+            model.feed(ints.get(), ints.get(), ints.get(), ints.get(), ints.get());
+        }
+        model.back(bytes.length - text.length());
+        int due = model.read();
+        Check.fault(text, due, model.place());
     }
 
     private static void endOfText() {
@@ -529,7 +621,14 @@ public final class TextEdgesTest {
         Check.due("show", x.show(1, 0), 0);
         Check.due("pays", x.person(1, 4), 3);
         Check.due("washes", x.person(1, 5), 0);
-        Check.due("names may be told anew", Check.read(x, "slide ann 0 0 1;person sun 1;shown sun ann;"), 0);
+        Check.due("names may be told anew", Check.read(x, "slide ann 0 0 6;person sun 1;shown sun ann;"), 0);
+        // Nor do they come back by the next text.
+        Check.due("takes", x.tells(0, 0, 0), 6);
+        Check.due("fades", x.tells(0, 0, 1), 1);
+        Check.due("pays", x.person(0, 4), 6);
+        Check.due("washes", x.person(0, 5), 0);
+        Check.due("a seed of washes that are told", Check.read(x, SIX + "washes=50;"), 0);
+        Check.due("is 0", x.count(13), lots(0, 0, 50));
         Check.due("names of the one ahead", Check.read(x, "shown sun ann;"), 4);
         Check.due("none at all", x.read(), 0);
         Check.due("slides", x.count(0), 0);

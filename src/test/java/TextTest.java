@@ -259,9 +259,10 @@ public final class TextTest {
         Check.due("the last", takes("if 3<2 then 1 else if 2<2 then 2 else if 1<1 then 3 else if 9<1 then 4 else 5"), 5);
         Check.due("deep", takes("1+2*(3+4*(5-1*(6-2)))"), 15);
         Check.due("deepest", takes("((((((1+2)*2)+1)*2)+1)*2)"), 30);
-        String deepest = "1+1*(1+1*(1+1*(1+1*(1+1*(1+1*(1+1*2))))))";
-        Check.due("most signs wait", takes(deepest), 9);
-        Check.due("most numbers wait", takes("if 8<" + deepest + " then 4+" + deepest + " else 3"), 13);
+        // 3, 7, 15, 31, 63, 127, 255.
+        String deepest = "1+2*(1+2*(1+2*(1+2*(1+2*(1+2*(1+2*1))))))";
+        Check.due("most signs wait", takes(deepest + "-200"), 55);
+        Check.due("most numbers wait", takes("if 254<" + deepest + " then 4-200+" + deepest + " else 3"), 59);
         // 6 + 4 tokens, then as many as there is room for: each of them counts.
         LanternPeople full = Check.village("slide a 0 0 1;person p 0;takes=50" + Check.times("+0", 192) + "+7;");
         Check.due("the longest law", full.tells(0, 0, 0), 57);

@@ -305,6 +305,11 @@ public final class VillageEdgesTest {
     }
 
     private static void lots() {
+        Check.of("LOT n of a SEED and a which: h is the SEED; for each of 205, which: h becomes (h and it, each bit of which is in just one) "
+            + "times 1103515245 and 12345 more, then h and h moved 15 bits down (zeros come in), likewise; "
+            + "the rest of h, moved 1 bit down likewise, by n (32 bits that wrap).");
+        Check.due("of 0 and 0", lot(0, 0), 35);
+        Check.due("of 9999 and 805", lot(9999, 805), 7);
         Check.of("LOT 100 of the SEED and 8 * the week and their number is less than WASHES.");
         for (int seed : new int[] {0, 1, 205, 4096, 9998, 9999}) {
             LanternPeople x = Check.village(SIX + "washes=10+15*seat;seed " + seed + ";");
