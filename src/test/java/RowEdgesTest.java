@@ -32,6 +32,8 @@ public final class RowEdgesTest {
         gameLowest();
         throwEdges();
         placeEdges();
+        askedAgain();
+        askedOneAfterAnother();
         Check.end();
     }
 
@@ -355,5 +357,56 @@ public final class RowEdgesTest {
         Check.due("staying", x.where(0, 0), 2);
         Check.due("q at the first", x.where(1, 0), 0);
         Check.due("q at the first", x.where(1, 1), 1);
+    }
+
+    /** What was asked before, of how it was before, is never in the answer. */
+    private static void askedAgain() {
+        Check.of("What would be (nothing happens;");
+        LanternPeople x = Check.village("slide x 3 3 5;person p 0;person q 0;person r 0;shown p x;shown q x;shown r x;fades=5;");
+        for (int i = 0; i < 2; i++) {
+            Check.due("full rows", x.fullRows(), 6);
+            Check.due("rings", x.rings(), 6);
+            Check.due("best row", x.bestRow(-1), 2);
+            Check.due("longest", x.longest(-1), 3);
+            Check.due("way", x.way(2, 0), 1);
+            Check.due("game", x.game(0), 1);
+            Check.due("mend", x.mend(-1), 0);
+            Check.due("how many two", x.count(14), 6);
+            Check.due("lonely", x.lonely(), 0);
+        }
+        x.weeks(1);
+        for (int i = 0; i < 2; i++) {
+            Check.due("full rows of plain ones", x.fullRows(), 0);
+            Check.due("rings of plain ones", x.rings(), 0);
+            Check.due("best row of plain ones", x.bestRow(-1), 0);
+            Check.due("longest of plain ones", x.longest(-1), 1);
+            Check.due("way of plain ones", x.way(2, 0), -2);
+            Check.due("game of plain ones", x.game(0), 2);
+            Check.due("whom of plain ones", x.game(1), -2);
+            Check.due("mend of plain ones", x.mend(-1), 3);
+            Check.due("how many two", x.count(14), 0);
+            Check.due("lonely", x.lonely(), 7);
+        }
+        Check.due("undo", x.undo(), true);
+        Check.due("full rows", x.fullRows(), 6);
+        Check.due("no people any more", x.read(), 0);
+        Check.due("full rows", x.fullRows(), 1);
+        Check.due("longest", x.longest(-1), 0);
+        Check.due("best row", x.bestRow(-1), 0);
+        Check.due("lonely", x.lonely(), 0);
+    }
+
+    private static void askedOneAfterAnother() {
+        // Three pairs: three joins in the best row, but no more than two in a row that joins.
+        LanternPeople x = Check.village("slide a 0 1 5;slide b 1 2 5;slide c 3 4 5;slide d 4 5 5;" + SIX
+            + "shown p a;shown q b;shown r a;shown s b;shown t c;shown u d;");
+        for (int i = 0; i < 2; i++) {
+            Check.due("best row", x.bestRow(-1), 3);
+            rowIs(x, 0, 1, 2, 3, 4, 5);
+            Check.due("longest", x.longest(-1), 2);
+            Check.due("longest", x.longest(1), 1);
+            Check.due("full rows", x.fullRows(), 0);
+            Check.due("rings", x.rings(), 0);
+        }
     }
 }

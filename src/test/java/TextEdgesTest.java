@@ -1,6 +1,7 @@
 import java.nio.ByteBuffer;
 import java.nio.IntBuffer;
 import java.util.Arrays;
+import java.util.List;
 
 /** Edges of promises 1 to 5 and of the Terms, sentence by sentence. */
 public final class TextEdgesTest {
@@ -47,6 +48,9 @@ public final class TextEdgesTest {
         laterOnes();
         everyFaultLeavesAll();
         inPlaceOfTheOneAhead();
+        oneBehindAnother();
+        longLawsBehindOneAnother();
+        behindFaults();
         Check.end();
     }
 
@@ -585,6 +589,10 @@ public final class TextEdgesTest {
             Check.due("read", Check.read(touched, "."), 1);
             Check.due("read", Check.read(untouched, "."), 1);
             Twins.alike("read of " + faults[i], touched, untouched);
+            LanternPeople same = busy();
+            List<String> before = Twins.seen(same);
+            Check.due("read", Check.read(same, faults[i]), i + 1);
+            Check.due("all is as before " + faults[i], Twins.seen(same).equals(before), true);
         }
     }
 
@@ -633,5 +641,61 @@ public final class TextEdgesTest {
         Check.due("none at all", x.read(), 0);
         Check.due("slides", x.count(0), 0);
         Check.due("people", x.count(1), 0);
+    }
+
+    /** What one text told is never there in a later one that does not tell it. */
+    private static void oneBehindAnother() {
+        Check.of("else it is in place of the one ahead");
+        String told = "slide a 0 0 9;" + SIX + "shown p a;takes=3;fades=4;pays=5;washes=60;seed 77;";
+        for (int times = 1; times <= 3; times++) {
+            LanternPeople x = new LanternPeople();
+            for (int i = 0; i < times; i++) {
+                Check.due("read", Check.read(x, told), 0);
+                Check.due("glow", x.glow(0, 0), 3);
+                Check.due("who would wash", x.count(13), lots(77, 0, 60));
+            }
+            for (int i = 0; i < 3; i++) {
+                Check.due("read", Check.read(x, "slide b 1 1 6;" + SIX), 0);
+                Check.due("nothing shown", x.count(7), 0);
+                Check.due("takes", x.tells(0, 0, 0), 6);
+                Check.due("fades", x.tells(0, 0, 1), 1);
+                Check.due("show", x.show(0, 0), 0);
+                Check.due("pays", x.person(0, 4), 6);
+                Check.due("washes", x.person(0, 5), 0);
+            }
+            for (int i = 0; i < 3; i++) {
+                Check.due("read", Check.read(x, SIX + "washes=60;"), 0);
+                Check.due("who would wash by seed 0", x.count(13), lots(0, 0, 60));
+                Check.due("slides", x.count(0), 0);
+            }
+        }
+    }
+
+    private static void longLawsBehindOneAnother() {
+        LanternPeople x = new LanternPeople();
+        for (int i = 0; i < 12; i++) {
+            // 10 tokens, and a law of 390.
+            Check.due("read", Check.read(x, "slide a 0 0 1;person p 0;takes=" + i + Check.times("+0", 192) + "+7;"), 0);
+            Check.due("takes", x.tells(0, 0, 0), i + 7);
+            Check.due("fades", x.tells(0, 0, 1), 1);
+        }
+    }
+
+    private static void behindFaults() {
+        Check.of("A text with a FAULT changes nothing but the tape;");
+        String[] faults = {"takes=((1", "takes=2-(3*", "takes=2*", "takes=if 1<", "takes=if 1<2 then 3+(4", "slide a 0 0 1;slide b",
+            FIVE + SIX + "shown p a;.", "takes=" + Check.times("if 1<2 then 3 else ", 4) + "(", "slide a 9 9 9;seed 5;fades=(7);"};
+        for (String fault : faults) {
+            LanternPeople x = new LanternPeople();
+            for (int i = 0; i < 3; i++) {
+                Check.due("fault", Check.read(x, fault) > 0, true);
+                Check.due("read", Check.read(x, "slide a 0 0 1;person p 0;takes=5+(6-2)*3;"), 0);
+                Check.due("takes", x.tells(0, 0, 0), 17);
+                Check.due("fades", x.tells(0, 0, 1), 1);
+                Check.due("slides", x.count(0), 1);
+                Check.due("people", x.count(1), 1);
+                Check.due("glows", x.count(7), 0);
+            }
+        }
     }
 }

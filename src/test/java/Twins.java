@@ -44,7 +44,7 @@ final class Twins {
         Check.due("nothing changes by " + call + where, same, true);
     }
 
-    /** All that can be seen, then all undone, each slot gone on from, the tape read: some 430 calls at most. */
+    /** All that can be seen, then all undone, each slot gone on from, the tape read: some 340 calls. */
     private static List<String> goneOn(LanternPeople x) {
         List<String> seen = new ArrayList<>();
         add(seen, "place()", x.place());
@@ -76,6 +76,13 @@ final class Twins {
         add(seen, "at seat 0", x.seat(0));
     }
 
+    /** All that can be seen of how it is, by some 160 calls. */
+    static List<String> seen(LanternPeople x) {
+        List<String> seen = new ArrayList<>();
+        lookOver(x, seen);
+        return seen;
+    }
+
     private static void lookOver(LanternPeople x, List<String> seen) {
         for (int what = 0; what <= 17; what++) {
             add(seen, "count(" + what + ")", x.count(what));
@@ -92,6 +99,10 @@ final class Twins {
         for (int s = 0; s < 5; s++) {
             for (int what = 0; what < 4; what++) {
                 add(seen, "slide(" + s + ", " + what + ")", x.slide(s, what));
+            }
+            for (int what = 0; what < 2; what++) {
+                add(seen, "tells(0, " + s + ", " + what + ")", x.tells(0, s, what));
+                add(seen, "tells(1, " + s + ", " + what + ")", x.tells(1, s, what));
             }
         }
         for (int k = 0; k <= 20; k++) {
