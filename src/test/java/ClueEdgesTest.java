@@ -30,6 +30,7 @@ public final class ClueEdgesTest {
         for (int i = 0; i < 20; i++) {
             Check.due("told", x.tell(3, 20, false), i);
         }
+        Check.of("It is TOLD: its number; NONE, and nothing happens: 20 are there, no such mark, no such v.");
         Check.due("20 are there", x.tell(3, 20, false), -1);
         Check.due("told", x.count(10), 20);
         Check.due("forget", x.forget(), 20);

@@ -198,6 +198,12 @@ public final class RowEdgesTest {
         Check.due("nobody", new LanternPeople().mend(-1), 0);
         Check.due("nobody", new LanternPeople().mend(0), -1);
         Check.due("slides alone", Check.village("slide a 0 1 5;").mend(-1), 0);
+        Check.of("MEND: how few (i NONE), else which SLIDE at the i-th SEAT;");
+        LanternPeople one = Check.village("slide a 0 1 5;slide b 1 0 5;person p 0;person q 0;shown p a;shown q a;");
+        Check.due("how few", one.mend(-1), 1);
+        Check.due("at the first", one.mend(0), 0);
+        Check.due("at the last", one.mend(1), 1);
+        Check.due("beyond", one.mend(2), -1);
         Check.of("(PLAIN ones: of none)");
         LanternPeople plain = Check.village(PLAIN);
         Check.due("all six", plain.mend(-1), 6);

@@ -153,6 +153,9 @@ public final class TextEdgesTest {
         Check.of("The tape, which is empty then, is read: 0, or the number of its FAULT.");
         LanternPeople x = new LanternPeople();
         Check.due("an empty tape", x.read(), 0);
+        Check.of("text: {TELL}.");
+        Check.due("of no TELL", Check.read(x, " "), 0);
+        Check.of("The tape, which is empty then, is read: 0, or the number of its FAULT.");
         Check.due("fault", Check.read(x, "slide"), 1);
         Check.due("bytes", x.count(8), 0);
         Check.due("again", x.read(), 0);
@@ -205,7 +208,9 @@ public final class TextEdgesTest {
             boolean fits = blank || b >= '0' && b <= '9';
             Check.fault("seed 1" + sign + ";", fits ? 0 : 1, fits ? -1 : b == ';' ? 7 : 6);
         }
+        Check.of("TOKENS, the longest that can be, with blanks");
         Check.fault("slidea0 0 1;persona 1;", 1, 0);
+        Check.fault("person slidesea 1;person iff 1;seed 0011;", 0, -1);
         Check.fault("slide a0 0 1;person p1;shown p a;takes=if 1<2then 3else 4;seed1;", 0, -1);
         Check.fault("slide\ta\n0\r1 2\t;\r\n", 0, -1);
         Check.fault("\t\n\r ", 0, -1);

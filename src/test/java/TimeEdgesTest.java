@@ -107,11 +107,12 @@ public final class TimeEdgesTest {
     }
 
     private static void like() {
-        Check.of("LIKE (bits; PLAIN: 0); NONE: no such PERSON.");
+        Check.of("LIKE of a PERSON: others with their PICTURE.");
         LanternPeople all = Check.village("slide x 0 1 5;" + SIX + ALL_X);
         for (int p = 0; p < 6; p++) {
             Check.due("all others", all.like(p), 63 - (1 << p));
         }
+        Check.of("LIKE (bits; PLAIN: 0); NONE: no such PERSON.");
         LanternPeople plain = Check.village("slide x 0 1 5;" + SIX);
         Check.due("plain", plain.like(0), 0);
         Check.due("without slides", Check.village(SIX).like(5), 0);
