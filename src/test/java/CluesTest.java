@@ -97,6 +97,9 @@ public final class CluesTest {
         // Only on how many it shows tells one of them from the others.
         Check.due("by 2", shown.look(0, 2), 3);
         Check.due("by 1", shown.look(0, 1), 2 + 1);
+        LanternPeople five = Check.village("slide a 0 0 1;slide b 0 0 1;slide c 0 0 1;slide d 0 0 1;slide e 0 0 20;");
+        // BRIGHT leaves 4 at worst, the others all 5.
+        Check.due("one of five", five.look(0, 10), 2);
     }
 
     private static void hold() {

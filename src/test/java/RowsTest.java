@@ -131,6 +131,9 @@ public final class RowsTest {
         LanternPeople near = Check.village("slide a 0 1 9;slide b 1 2 9;slide c 2 3 9;slide d 1 3 9;slide e 3 4 9;"
             + "person p 0;person q 0;person r 0;person s 0;person t 0;shown p a;shown q b;shown r c;shown s d;shown t e;");
         Check.due("the nearest", near.way(0, 4), 2);
+        LanternPeople twoWays = Check.village("slide a 0 1 9;slide b 1 2 9;slide c 2 3 9;"
+            + "person p 0;person q 0;person r 0;person s 0;shown p a;shown q b;shown r b;shown s c;");
+        Check.due("by either of two", twoWays.way(0, 3), 2);
     }
 
     private static void mend() {

@@ -17,6 +17,7 @@ public final class TextTest {
         late();
         laws();
         faultChangesNothing();
+        faultLeavesNothing();
         Check.end();
     }
 
@@ -285,5 +286,17 @@ public final class TextTest {
         Check.due("slots", x.count(11), 1);
         Check.due("undo", x.undo(), true);
         Check.due("glow", x.glow(0, 0), 9);
+    }
+
+    /** What was open in texts with a fault is not open in the next text. */
+    private static void faultLeavesNothing() {
+        LanternPeople x = new LanternPeople();
+        for (int i = 0; i < 8; i++) {
+            Check.due("fault", Check.read(x, "takes=((((((1+2*;"), 1);
+            Check.due("place", x.place(), 16);
+        }
+        String deepest = "1+2*(1+2*(1+2*(1+2*(1+2*(1+2*(1+2*1))))))";
+        Check.due("no fault", Check.read(x, "slide a 0 0 1;person p 0;takes=" + deepest + "-200;"), 0);
+        Check.due("takes", x.tells(0, 0, 0), 55);
     }
 }

@@ -199,6 +199,9 @@ public final class TimesTest {
         x.weeks(1);
         // It goes on in week 1.
         Check.due("1 week more", x.year(0, 1, 2), 1);
+        LanternPeople y = Check.village("slide a 0 0 9;slide b 0 0 3;person p 0;shown p b;washes=30;seed 9999;");
+        Check.due("whichever slide it is, 2 weeks", y.year(0, 2, 2), 1);
+        Check.due("whichever slide it is, 3 weeks", y.year(0, 3, 2), 2);
     }
 
     private static void nothingHappens() {
